@@ -258,6 +258,12 @@ public final class PromisesTest {
         y.thing(0, 1, 1, 8, 0);
         due("more worth ahead of fewest", y.best(7, 0), 1);
         due("its worth", y.best(7, -1), 50);
+        for (int thing = 0; thing < 6; thing++) {
+            y.thing(thing, 18, 9, 99 - thing, 1);
+        }
+        due("all there is", y.best(972, -1), 9 * (99 + 98 + 97 + 96 + 95 + 94) - 6 * 36);
+        due("nine of 0", y.best(972, 0), 9);
+        due("nine of 5", y.best(972, 5), 9);
         EvenPurse z = new EvenPurse();
         z.thing(0, 1, 9, 0, 0);
         z.thing(2, 3, 9, 0, 0);
@@ -300,6 +306,12 @@ public final class PromisesTest {
             due("near(" + row[0] + ", 0)", x.near(row[0], 0), row[1]);
             due("near(" + row[0] + ", 1)", x.near(row[0], 1), row[2]);
         }
+        EvenPurse y = new EvenPurse();
+        y.thing(2, 37, 9, 0, 0);
+        y.thing(3, 74, 9, 0, 0);
+        due("up to 999", y.near(963, 1), 999);
+        due("at 999", y.near(999, 1), 999);
+        due("below 999", y.near(998, 0), 962);
         int[][] outside = {{-1, 0}, {1000, 1}, {5, -1}, {5, 2}, {HIGHEST, LOWEST}};
         for (int[] row : outside) {
             due("near(" + row[0] + ", " + row[1] + ")", x.near(row[0], row[1]), OUTSIDE);
@@ -717,6 +729,16 @@ public final class PromisesTest {
         due("row by the old price", x.row(12), 0);
         due("endless by the old price", x.endless(0), 5);
         due("the pad stays", x.told(0), 3);
+        x.seen(0, 1, 0);
+        x.seen(1, 2, 1);
+        due("image(1)", x.image(1), 1);
+        x.forget();
+        x.seen(5, 9, 1);
+        x.seen(4, 9, 1);
+        x.thing(0, 4, 2, 10, 10);
+        due("restore(1)", x.restore(1), 1);
+        due("the sights as they were", x.fits(0, 999, 0), 13);
+        due("less as it was", x.told(13), 3);
         due("and is by the old price", x.basket(0), 11);
         x.thing(0, 0, 0, 0, 0);
         due("restore(0) once more", x.restore(0), 1);
